@@ -1896,10 +1896,13 @@ public final class RingChamber {
                 depth++;
                 return takesCount(MOST_TIMES) && tokens.take(Tokens.SIGN);
             }
-            if (kind == Tokens.STOP) {
-                return tokens.take(Tokens.SIGN);
+            if (kind != Tokens.STOP && !takesMethodName(book)) {
+                return false;
             }
-            return takesLead(kind, book) && tokens.take(Tokens.SIGN);
+            if (kind == Tokens.PART && !takesCount(lastCount())) {
+                return false;
+            }
+            return tokens.take(Tokens.SIGN);
         }
 
         private static boolean isStep(int kind) {
@@ -1925,7 +1928,8 @@ public final class RingChamber {
             }
         }
 
-        private boolean takesLead(int kind, Book book) {
+        /** The line's count is all changes of the method, as long as no part is told. */
+        private boolean takesMethodName(Book book) {
             if (!tokens.isAt(Tokens.NAME)) {
                 return tokens.misplaced();
             }
@@ -1938,7 +1942,11 @@ public final class RingChamber {
                 counts[lines - 1] = method.length();
             }
             tokens.next();
-            return kind != Tokens.PART || takesCount(method.length());
+            return true;
+        }
+
+        private int lastCount() {
+            return lines > 0 ? counts[lines - 1] : 0;
         }
 
         private boolean takesCount(int most) {
