@@ -207,6 +207,8 @@ public final class TrayAndTextTest extends Due {
     private static void bookFaults() {
         bookFault("stage 123456789", 1, 6);
         bookFault("stage 4;method a x,", 1, 18);
+        bookFault("stage 000000004;", 1, 6);
+        bookFault("stage 8;method a 123456789;", 1, 17);
         bookFault("stage 4;\t", 1, 8);
         bookFault("stage 4;Method", 1, 8);
         bookFault("stage", 2, 5);
@@ -252,6 +254,9 @@ public final class TrayAndTextTest extends Due {
         fine(x, "16 and back", Texts.book(x, "stage 8;method a" + times(" x", 16) + " back 18;"), 1);
         due("changes", x.changes(0), 32);
         fine(x, "four methods", Texts.book(x, "stage 04;method a x;method b x;method c x;method d x;"), 4);
+        fine(x, "8 digits", Texts.book(x, "stage 00000008;method a 12345678;ringer b 00000001;"), 1);
+        due("all stay", x.change(0, 0, 0), 12345678);
+        due("silent", x.told(3), 254);
         fine(x, "odd", Texts.book(x, "stage 7;method a 7 1 back 127 bob 347 single 12347;"), 1);
         due("rows", x.told(2), 5040);
         due("back", x.change(0, 0, 2), 7);
