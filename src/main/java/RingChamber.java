@@ -45,12 +45,9 @@ public final class RingChamber {
     private long top = 0;
     private long bottom = 1;
     private final Tray[] trays = new Tray[TRAYS];
-    private final byte[] tape = new byte[TAPE_BYTES];
-    private int taped = 0;
-    private int faultKind = NONE;
-    private int faultPlace = NONE;
-    private final BookReader bookReader;
-    private final TouchReader touchReader;
+    private final Tokens tokens = new Tokens();
+    private final BookReader bookReader = new BookReader(tokens);
+    private final TouchReader touchReader = new TouchReader(tokens);
     private Book book = new Book(LEAST_STAGE, Rows.allBells(LEAST_STAGE), new Method[0]);
     private Touch touch = null;
     /** The touch once it is rung. */
@@ -64,9 +61,6 @@ public final class RingChamber {
     private final Composer composer = new Composer();
 
     public RingChamber() {
-        Tokens tokens = new Tokens(tape);
-        bookReader = new BookReader(tokens);
-        touchReader = new TouchReader(tokens);
     }
 
     public int status() {
@@ -132,26 +126,22 @@ public final class RingChamber {
     // ---- texts
 
     public int feed(int a, int b, int c, int d, int e) {
-        if (taped > TAPE_BYTES - FEED_BYTES) {
+        if (tokens.taped > TAPE_BYTES - FEED_BYTES) {
             return NONE;
         }
-        tapeInt(a);
-        tapeInt(b);
-        tapeInt(c);
-        tapeInt(d);
-        tapeInt(e);
-        return taped;
+        tokens.tapeInt(a);
+        tokens.tapeInt(b);
+        tokens.tapeInt(c);
+        tokens.tapeInt(d);
+        tokens.tapeInt(e);
+        return tokens.taped;
     }
 
     public int book(int n) {
-        if (n < 0 || n > taped) {
+        if (n < 0 || n > tokens.taped) {
             return refuse(WRONG);
         }
-        boolean taken = bookReader.takes(n);
-        taped = 0;
-        faultKind = bookReader.tokens.fault;
-        faultPlace = bookReader.tokens.faultAt;
-        if (!taken) {
+        if (!bookReader.takes(n)) {
             return refuse(FAULTY);
         }
         book = bookReader.made();
@@ -161,14 +151,10 @@ public final class RingChamber {
     }
 
     public int touch(int n) {
-        if (n < 0 || n > taped || n > TOUCH_BYTES) {
+        if (n < 0 || n > tokens.taped || n > TOUCH_BYTES) {
             return refuse(WRONG);
         }
-        boolean taken = touchReader.takes(n, book);
-        taped = 0;
-        faultKind = touchReader.tokens.fault;
-        faultPlace = touchReader.tokens.faultAt;
-        if (!taken) {
+        if (!touchReader.takes(n, book)) {
             return refuse(FAULTY);
         }
         touch = touchReader.made(book);
@@ -178,9 +164,9 @@ public final class RingChamber {
 
     public int fault(int what) {
         if (what == 0) {
-            return faultKind;
+            return tokens.fault;
         }
-        return what == 1 ? faultPlace : NONE;
+        return what == 1 ? tokens.faultAt : NONE;
     }
 
     public int told(int what) {
@@ -736,13 +722,6 @@ public final class RingChamber {
             return NO_SUCH;
         }
         return k > rung.last() ? WRONG : FINE;
-    }
-
-    private void tapeInt(int v) {
-        for (int shift = 24; shift >= 0 && taped < TAPE_BYTES; shift -= 8) {
-            tape[taped] = (byte) (v >>> shift);
-            taped++;
-        }
     }
 
     private void tellFraction(int part, int whole) {
@@ -1490,7 +1469,7 @@ public final class RingChamber {
         }
     }
 
-    /** The tokens of a text on the tape, and the first fault in it. */
+    /** The tape, the tokens of a text on it, and the first fault in the text read latest. */
     private static final class Tokens {
         static final int NOTHING = 0;
         static final int TEXT_END = 1;
@@ -1513,7 +1492,8 @@ public final class RingChamber {
         private static final int MOST_LETTERS = 8;
         private static final int MOST_DIGITS = 8;
 
-        private final byte[] text;
+        private final byte[] text = new byte[TAPE_BYTES];
+        int taped = 0;
         /** The words that are no names, from that of the kind STAGE on. */
         private final long[] reserved = new long[STOP - STAGE + 1];
         private int length = 0;
@@ -1523,11 +1503,10 @@ public final class RingChamber {
         int value = 0;
         /** A word of up to eight letters, as a number to the base 27. */
         long word = 0;
-        int fault = 0;
+        int fault = NONE;
         int faultAt = NONE;
 
-        Tokens(byte[] text) {
-            this.text = text;
+        Tokens() {
             reserved[STAGE - STAGE] = wordOf("stage");
             reserved[METHOD - STAGE] = wordOf("method");
             reserved[X - STAGE] = wordOf("x");
@@ -1542,8 +1521,17 @@ public final class RingChamber {
             reserved[STOP - STAGE] = wordOf("stop");
         }
 
+        void tapeInt(int v) {
+            for (int shift = 24; shift >= 0 && taped < text.length; shift -= 8) {
+                text[taped] = (byte) (v >>> shift);
+                taped++;
+            }
+        }
+
+        /** The tape is empty from now on, but its bytes stand until the next ones come. */
         void open(int n) {
             length = Math.min(n, text.length);
+            taped = 0;
             end = 0;
             fault = 0;
             faultAt = NONE;
@@ -1636,7 +1624,7 @@ public final class RingChamber {
     }
 
     private static final class BookReader {
-        final Tokens tokens;
+        private final Tokens tokens;
         private int stage = LEAST_STAGE;
         private int methods = 0;
         private int ringers = 0;
@@ -1837,7 +1825,7 @@ public final class RingChamber {
         /** Loops come back at most so often for each step that is rung. */
         private static final int MOST_VISITS = STEPS_RUNG * (MOST_TIMES + 1);
 
-        final Tokens tokens;
+        private final Tokens tokens;
         private int steps = 0;
         private int depth = 0;
         private int lines = 0;

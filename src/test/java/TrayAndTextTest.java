@@ -211,6 +211,8 @@ public final class TrayAndTextTest extends Due {
         bookFault("stage 8;method a 123456789;", 1, 17);
         bookFault("stage 4;\t", 1, 8);
         bookFault("stage 4;Method", 1, 8);
+        bookFault("abcdefghi 4;", 2, 0);
+        bookFault("stagestage 4;", 2, 0);
         bookFault("stage", 2, 5);
         bookFault("stage  ", 2, 7);
         bookFault("stage four", 2, 6);
