@@ -259,7 +259,73 @@ public final class RowEdgeTest extends Edge {
         refused(x, "pairs that are not neighbours", x.between(0, numberOf(8, "34125678")), 7);
     }
 
+    private static void rowTerms() {
+        RingChamber x = new RingChamber();
+        term("INVERSE: the ROW whose PRODUCT with it is ROUNDS.");
+        for (int r = 0; r < 24; r++) fine(x, "with its INVERSE", x.product(r, x.inverse(r)), 0);
+
+        term("POWER n of a ROW: it, n times multiplied (0: ROUNDS).");
+        fine(x, "0 of ROUNDS", x.power(0, 0), 0);
+        fine(x, "0 of the last", x.power(23, 0), 0);
+        fine(x, "1", x.power(9, 1), 9);
+        fine(x, "2", x.power(9, 2), x.product(9, 9));
+        fine(x, "3", x.power(9, 3), x.product(x.product(9, 9), 9));
+
+        term("CYCLES of a ROW: of a place p it leads to the place of the BELL there, and so on till p comes again: how many such rounds there are of a length.");
+        int[] three = {0, 1, 0, 1, 0};
+        for (int n = 1; n <= 4; n++) fine(x, "1342, of " + n, x.cycles(3, n), three[n]);
+        fine(x, "2143", x.cycles(7, 2), 2);
+
+        term("DISTANCE of two ROWS: the fewest exchanges of neighbours that lead from one to the other.");
+        fine(x, "none", x.distance(5, 5), 0);
+        fine(x, "1432 and 1234", x.distance(5, 0), 3);
+        fine(x, "2341 and 3241", x.distance(numberOf(4, "2341"), numberOf(4, "3241")), 1);
+        fine(x, "2341 and 2431", x.distance(numberOf(4, "2341"), numberOf(4, "2431")), 1);
+        fine(x, "2341 and 1342", x.distance(numberOf(4, "2341"), numberOf(4, "1342")), 5);
+
+        term("BETWEEN two ROWS: the CHANGE that leads from the first to the second.");
+        fine(x, "itself", x.between(23, 23), 1234);
+        fine(x, "x", x.between(23, x.done(23, 0)), 0);
+        refused(x, "none", x.between(23, 0), 7);
+    }
+
     // ---- METHODS
+
+    private static void methodTerms() {
+        String book = "stage 4;method a x 14 bob 1234 single 34;method b 1234;";
+        RingChamber x = with(book);
+        term("HEAD of a METHOD with a call (0 plain, 1 bob, 2 single): the ROW behind a LEAD from ROUNDS.");
+        fine(x, "plain", x.head(0, 0), numberOf(4, "2413"));
+        fine(x, "bob", x.head(0, 1), numberOf(4, "2143"));
+        fine(x, "single", x.head(0, 2), numberOf(4, "1243"));
+
+        term("From any ROW a, a LEAD leads to the PRODUCT of a and HEAD.");
+        x = rung(book, "plain a;single a;bob a;");
+        fine(x, "ROUNDS", x.rowAt(2), x.product(0, x.head(0, 0)));
+        fine(x, "from there", x.rowAt(4), x.product(x.rowAt(2), x.head(0, 2)));
+        fine(x, "and from there", x.rowAt(6), x.product(x.rowAt(4), x.head(0, 1)));
+
+        term("COURSE: how many such LEADS it takes to come to ROUNDS.");
+        fine(x, "4", x.course(0, 0), 4);
+        fine(x, "2", x.course(0, 1), 2);
+        fine(x, "1, though no ROW is another", x.course(1, 0), 1);
+
+        term("FIXED: the set of BELLS (1 for BELL 1, 2 for 2, 4 for 3 ..) that stand in the HEAD where they stand in ROUNDS.");
+        fine(x, "none", x.fixed(0, 0), 0);
+        fine(x, "1 and 2", x.fixed(0, 2), 3);
+        fine(x, "all", x.fixed(1, 0), 15);
+
+        term("SYMMETRIC: the CHANGES of a plain LEAD but the last, read backward, are the same.");
+        x = with("stage 4;method a x;method b 14 x;method c 14 x 14;method d 14 x 14 x bob 12;");
+        int[] symmetric = {1, 1, 0, 1};
+        for (int m = 0; m < 4; m++) fine(x, "method " + m, x.symmetric(m), symmetric[m]);
+
+        term("FALSE against a METHOD (its LEAD begun with ROUNDS) are ROWS with which a LEAD of it may begin so that both have a ROW together; but ROUNDS itself.");
+        x = with("stage 4;method a x 14 bob 1234;");
+        // 2143 2413: 4231 leads to 2413 3142 .. by x, the bob's 2143 does not count
+        for (int r = 0; r < 24; r++) fine(x, "ROW " + r, x.falseAgainst(0, r), r == numberOf(4, "4231") ? 1 : 0);
+        fine(x, "how many", x.falses(0), 1);
+    }
 
     private static void leads() {
         says(25, "How many CHANGES a LEAD has (1).");
@@ -330,6 +396,9 @@ public final class RowEdgeTest extends Edge {
                 + ";method c 14" + times(" x 14", 4) + ";method d x 14 bob x;");
         int[] last = {0, 1, 0, 1};
         for (int m = 0; m < 4; m++) fine(x, "the last alone, method " + m, x.leadTrue(m), last[m]);
+        x = with("stage 4;method a x x 14;method b x 14 14;method c x x x;method d x 14 14 bob 12;");
+        int[] within = {1, 0, 0, 0};
+        for (int m = 0; m < 4; m++) fine(x, "ROUNDS within, or a ROW again, method " + m, x.leadTrue(m), within[m]);
 
         term("Of a LEAD, begun with a ROW, its ROWS are the ROW behind each CHANGE, with plain.");
         x = with("stage 4;method a x bob 14;");
@@ -345,6 +414,11 @@ public final class RowEdgeTest extends Edge {
         for (int r = 1; r < 24; r++) fine(x, "the whole: ROW " + r, x.falseAgainst(0, r), 1);
         for (int r = 0; r < 24; r++) fine(x, "one ROW alone: ROW " + r, x.falseAgainst(1, r), 0);
         for (int r = 0; r < 24; r++) fine(x, "x x: ROW " + r, x.falseAgainst(3, r), r == 7 ? 1 : 0);
+        // 2143 2413 4231: 2413 leads to 4231 by its first CHANGE alone, 3142 to 2143 by its last alone
+        RingChamber three = with("stage 4;method a x 14 x;");
+        fine(three, "by the first ROW alone", three.falseAgainst(0, 10), 1);
+        fine(three, "by the last ROW alone", three.falseAgainst(0, 13), 1);
+        fine(three, "by none", three.falseAgainst(0, 1), 0);
 
         term("so that both have a ROW together; but ROUNDS itself.");
         for (int m = 0; m < 4; m++) fine(x, "ROUNDS", x.falseAgainst(m, 0), 0);
@@ -403,6 +477,8 @@ public final class RowEdgeTest extends Edge {
         products();
         changesDone();
         between();
+        rowTerms();
+        methodTerms();
         leads();
         falseness();
         ways();

@@ -138,6 +138,8 @@ public final class TextEdgeTest extends Edge {
 
         says(8, "So many numbers of a TRAY, from a place on, come to another one's (or its own) place on");
         done(x, "none", x.pour(0, 0, 1, 0, 0));
+        done(x, "none from behind the last on", x.pour(0, 3, 1, 0, 0));
+        done(x, "none to behind the last", x.pour(0, 0, 1, 3, 0));
         for (int p = 0; p < 3; p++) fine(x, "left as it is", x.read(1, p), kept[p]);
         done(x, "the last to the last", x.pour(0, 2, 1, 2, 1));
         fine(x, "come", x.read(1, 2), 3);
@@ -168,6 +170,9 @@ public final class TextEdgeTest extends Edge {
         Texts.feed(x, full);
         refused(x, "without the last byte", x.book(899), 9);
         due("the end", x.fault(1), 899);
+        bookFault("stage 8;" + times(" ", 886) + "ringer", 2, 900);
+        bookFault("stage 8;" + times(" ", 883) + "ringer a1", 2, 900);
+        bookFault("stage 8;" + times(" ", 891) + "?", 1, 899);
 
         term("TOKENS, as long as they go");
         bookTaken("stage4;method a x14x14back12bob14single1234;ringer b1;", 1);
@@ -389,6 +394,12 @@ public final class TextEdgeTest extends Edge {
             fine(x, "the last of method " + m + " with call " + c, x.change(m, c, 1), lasts[m][c]);
         }
 
+        x = with("stage 4;method a x;method b 14;");
+        for (int c = 0; c < 3; c++) {
+            fine(x, "the only one", x.change(0, c, 0), 0);
+            fine(x, "the only one", x.change(1, c, 0), 14);
+        }
+
         term("RINGERS, at most 8, ring one BELL each; a BELL that nobody rings is SILENT.");
         text = "stage 8;";
         for (int b = 1; b <= 8; b++) {
@@ -556,6 +567,13 @@ public final class TextEdgeTest extends Edge {
         touchFault("plain a; end;", 2, 9);
         touchFault("loop 1;", 2, 7);
         touchFault("loop 1;loop 1;end; ", 2, 19);
+        x = with(FOUR);
+        refused(x, "a loop without its end", Texts.touch(x, "loop 1;loop 1;"), 9);
+        refused(x, "is no beginning for the next text", Texts.touch(x, "end;end;"), 9);
+        due("fault", x.fault(0), 2);
+        due("place", x.fault(1), 0);
+        refused(x, "a loop without its end", Texts.touch(x, "loop 1;loop 1;"), 9);
+        fine(x, "needs none in the next text", Texts.touch(x, "loop 1;loop 1;loop 1;end;end;end;"), 3);
 
         term("3 a NAME that is no METHOD.");
         touchFault("plain aa;", 3, 6);
@@ -617,6 +635,17 @@ public final class TextEdgeTest extends Edge {
         RingChamber x = rung(FOUR, "part a 8;");
         fine(x, "with all of them, as plain", x.rowAt(8), x.head(0, 0));
 
+        term("plain, bob, single: a LEAD of it, with that call;");
+        String[] calls = {"plain", "bob", "single"};
+        for (int c = 0; c < 3; c++) {
+            x = rung(FOUR, calls[c] + " a;");
+            fine(x, "a LEAD", x.told(5), 8);
+            fine(x, "ahead of its last CHANGE", x.rowAt(7), 2);
+            fine(x, "behind a LEAD with " + calls[c], x.rowAt(8), new int[] {3, 0, 2}[c]);
+            x = rung(FOUR, calls[c] + " b;");
+            fine(x, "without such a call", x.rowAt(1), 7);
+        }
+
         term("loop n (1 to 99): as often.");
         ringsTo("loop 1;plain b;end;", 1);
         ringsTo("loop 2;plain b;end;", 2);
@@ -650,6 +679,11 @@ public final class TextEdgeTest extends Edge {
         // the loop within is come to from ahead each time: 1, then 75 times 1 and 3
         ringsTo("loop 99;loop 3;plain b;end;end;", 74 * 3 + 2);
         ringsTo("loop 99;loop 99;loop 99;end;end;end;plain b;", 0);
+        // 1 and 99 times 3 loops that hold nothing, each come to its end 99 times, and one more: 299 steps
+        String hollow = "loop 99;" + times("loop 99;end;", 3) + "end;loop 99;end;";
+        ringsTo(hollow + "plain b;", 1);
+        ringsTo(hollow + "plain b;plain b;", 1);
+        ringsTo(hollow + "stop;plain b;", 0);
         // 1 and 2 and 2 times 99: ends are none
         ringsTo("loop 2;loop 99;plain b;end;end;" + times("plain b;", 9), 2 * 99 + 9);
         String long32 = "stage 4;method e" + times(" x 14", 16) + ";method b x;";
@@ -802,6 +836,13 @@ public final class TextEdgeTest extends Edge {
         fine(x, "the first 8", x.book(8), 0);
         fine(x, "STAGE", x.told(0), 5);
         refused(x, "the others are gone", x.book(1), 1);
+        Texts.feed(x, "stagestage 4;       ");
+        refused(x, "a WORD ends with them", x.book(5), 9);
+        due("the end", x.fault(1), 5);
+        Texts.feed(x, "stage 44;           ");
+        refused(x, "a NUMBER ends with them", x.book(7), 9);
+        due("the end", x.fault(1), 7);
+        due("it could stand there", x.fault(0), 2);
         Texts.feed(x, FOUR);
         fine(x, "all four", x.book(FOUR.length()), 4);
         refused(x, "empty", x.book(0), 9);

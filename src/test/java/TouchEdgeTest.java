@@ -1,3 +1,5 @@
+import java.util.HashSet;
+
 /** Each sentence about TOUCHES, searches and MARKS that names a boundary, by itself; promises 36 to 60 and their terms. */
 public final class TouchEdgeTest extends Edge {
     /** n: nothing moves; a: x; b: 14; c: 12. BELLS 1 and 3 are rung. */
@@ -140,6 +142,10 @@ public final class TouchEdgeTest extends Edge {
         fine(x, "no ROW", x.repeats(), 0);
         x = rung(SMALL, "plain n;");
         fine(x, "ROW 0 is none of these", x.repeats(), 0);
+        x = rung(SMALL, "plain a;plain b;plain a;");
+        fine(x, "HEARD alike is not alike", x.repeats(), 0);
+        x = rung(SMALL, "plain a;plain b;plain b;plain a;plain a;");
+        fine(x, "the first and the last", x.repeats(), 2);
         x = rung(SMALL, "loop 99;plain n;end;loop 99;plain n;end;");
         fine(x, "all but the first", x.repeats(), 197);
     }
@@ -197,6 +203,12 @@ public final class TouchEdgeTest extends Edge {
             y.tray(0, 0, 4);
             return y.music(0);
         });
+
+        term("MUSIC by a TRAY: how many ROWS 1 .. fit: STAGE numbers from its place 0 on: a BELL, or 0 for any.");
+        x = rung(SMALL, "plain a;plain n;plain b;");
+        fits(x, 3, 0, 0, 0, 0);
+        fits(x, 2, 2, 1, 4, 3);
+        fits(x, 0, 1, 2, 3, 4);
 
         says(44, "MUSIC by a TRAY");
         // 2143 2413
@@ -257,6 +269,9 @@ public final class TouchEdgeTest extends Edge {
         fine(x, "at the beginning", x.runs(4), 0);
         x = rung("stage 8;method h x 18 x 18 x 18 x 18;", "plain h;");
         fine(x, "eight down", x.runs(8), 1);
+        x = rung("stage 4;method h 14 12 14;", "plain h;");
+        // 1324 1342 1432
+        fine(x, "down at the end", x.runs(3), 1);
     }
 
     private static void work() {
@@ -293,6 +308,10 @@ public final class TouchEdgeTest extends Edge {
         x = rung(SMALL, "");
         for (int b = 1; b <= 4; b++) fine(x, "one ROW", x.lies(b), 0);
 
+        term("BACKWARD: the CHANGES RUNG, read from the last to the first, are the same.");
+        backwardIs("plain a;plain n;plain a;", 1);
+        backwardIs("plain n;plain a;plain n;plain a;", 0);
+
         says(48, "1 if it is BACKWARD the same, else 0 (6).");
         nothing("backward", (y, n) -> y.backward());
         backwardIs("", 1);
@@ -313,6 +332,13 @@ public final class TouchEdgeTest extends Edge {
     }
 
     private static void heard() {
+        term("HEARD in a ROW: its BELLS that are not SILENT, in order.");
+        RingChamber two = rung("stage 4;method d 14 12 14;ringer a 4;ringer b 2;", "plain d;");
+        // 1432
+        fine(two, "4 is ahead of 2", two.heard(3, 0), 4);
+        fine(two, "2 is behind 4", two.heard(3, 1), 2);
+        refused(two, "1 and 3 are not HEARD", two.heard(3, 2), 6);
+
         says(49, "The k-th BELL HEARD in ROW i (1: no such ROW; 6: nothing RUNG, not so many).");
         nothing("heard", (y, n) -> y.heard(0, n));
         nothing("heard, far above", (y, n) -> y.heard(MOST, n));
@@ -342,8 +368,36 @@ public final class TouchEdgeTest extends Edge {
         heardAlikeIs(NOBODY, "plain a;plain b;plain a;", 2);
         heardAlikeIs(ALL_RING, "plain a;plain b;plain a;", 0);
         heardAlikeIs(ALL_RING, "plain n;plain n;plain a;plain a;", 2);
+        int[] orders = {1, 1, 2, 6, 24};
+        for (int set = 0; set < 16; set++) {
+            StringBuilder book = new StringBuilder("stage 4;method e" + times(" x 14 x 14 x 14 x 12", 3) + ";");
+            for (int b = 0; b < 4; b++) if ((set >> b & 1) == 1) book.append("ringer r").append((char) ('a' + b)).append(' ').append(b + 1).append(';');
+            heardAlikeIs(book.toString(), "plain e;", 24 - orders[Integer.bitCount(set)]);
+        }
+        for (int b = 1; b < 8; b++) heardAlikeIs("stage 8;method h x 18;ringer a " + b + ";ringer b 8;", "loop 8;plain h;end;", 14);
+        for (int set = 0; set < 256; set += 5) heardLong(set);
         // 2143 is heard 1 3, 2413 so too, 4231 as 3 1
         heardAlikeIs(SMALL, "plain a;plain b;plain a;", 1);
+    }
+
+    /** 2,000 ROWS rung by hand, of which the BELLS of a set are HEARD. */
+    private static void heardLong(int set) {
+        StringBuilder book = new StringBuilder("stage 8;method e" + times(" x 18", 15) + " x 12;");
+        for (int b = 0; b < 8; b++) if ((set >> b & 1) == 1) book.append("ringer r").append((char) ('a' + b)).append(' ').append(b + 1).append(';');
+        HashSet<String> sounds = new HashSet<>();
+        int[] row = {0, 1, 2, 3, 4, 5, 6, 7};
+        int alike = 0;
+        for (int k = 0; k < 2000; k++) {
+            for (int p = k % 2 == 0 ? 0 : k % 32 == 31 ? 2 : 1; p + 1 < 8; p += 2) {
+                int bell = row[p];
+                row[p] = row[p + 1];
+                row[p + 1] = bell;
+            }
+            StringBuilder sound = new StringBuilder();
+            for (int bell : row) if ((set >> bell & 1) == 1) sound.append(bell);
+            if (!sounds.add(sound.toString())) alike++;
+        }
+        heardAlikeIs(book.toString(), "loop 99;plain e;end;", alike);
     }
 
     private static void heardAlikeIs(String book, String touch, int due) {
@@ -452,7 +506,7 @@ public final class TouchEdgeTest extends Edge {
     }
 
     private static void odds() {
-        says(53, "for how many of so many seeds (1 to 20) from one on the ROW behind the last CHANGE is as without straying (1: the last above 9,999, too; 6)");
+        says(53, "The FRACTION is for how many of so many seeds (1 to 20) from one on the ROW behind the last CHANGE is as without straying (1: the last above 9,999, too; 6)");
         RingChamber x = with(SMALL);
         Texts.touch(x, "plain a;");
         range(x, "seed", 0, 9999, n -> x.odds(n, 1, 8) ? 1 : NONE);
@@ -463,6 +517,9 @@ public final class TouchEdgeTest extends Edge {
         denied(x, "the last is 10,000", x.odds(9999, 2, 8), 1);
         done(x, "the last is 9,999", x.odds(9998, 2, 8));
         denied(x, "far above", x.odds(MOST, MOST, 8), 1);
+        denied(x, "the first below 0, though the last is not", x.odds(-1, 2, 8), 1);
+        denied(x, "no seed at all", x.odds(5, 0, 8), 1);
+        denied(x, "21 seeds", x.odds(5, 21, 8), 1);
         RingChamber none = new RingChamber();
         denied(none, "no TOUCH", none.odds(0, 1, 0), 6);
         denied(none, "the last above 9,999 ahead of no TOUCH", none.odds(9999, 2, 0), 1);
@@ -506,6 +563,13 @@ public final class TouchEdgeTest extends Edge {
         wayIs(book, 13, 0, 2, 1, 0);
         wayIs(book, 10, 1, 0, 0, 2);
 
+        term("first the ROWS that one LEAD leads to, by METHODS, plain, bob, single of each");
+        for (int call = 0; call < 3; call++) {
+            String first = new String[] {"x", "12 bob x", "12 single x"}[call];
+            wayIs("stage 4;method a " + first + ";method b x;", 7, 0, call);
+        }
+        wayIs("stage 4;method a 12 single x;method b x bob 14 single 14;", 2, 1, 1);
+
         term("from these in the order in which they were found ..; each ROW is come to as it was found first.");
         wayIs("stage 4;method a 12;method b 34;", 7, 0, 0, 1, 0);
         wayIs("stage 4;method a 34;method b 12;", 7, 0, 0, 1, 0);
@@ -526,6 +590,8 @@ public final class TouchEdgeTest extends Edge {
         }
         refused(x, "one beside it", x.way(1), 6);
         fine(x, "the last ROW", x.way(40319), 4);
+
+        farthest();
 
         says(55, "Its k-th LEAD, by way() latest with STATUS 0, what 0: the METHOD, 1: the call (1: what; 6).");
         x = with(book);
@@ -550,6 +616,12 @@ public final class TouchEdgeTest extends Edge {
         fine(x, "that with STATUS 0 is told still", x.wayAt(0, 0), 0);
         refused(x, "one LEAD alone", x.wayAt(1, 0), 6);
 
+        term("EXTENT: how many ROWS can be come to so (ROUNDS with no LEAD, too).");
+        x = with("stage 4;method a x;");
+        fine(x, "ROUNDS and another", x.extent(), 2);
+        x = with("stage 8;");
+        fine(x, "ROUNDS alone", x.extent(), 1);
+
         says(56, "EXTENT.");
         x = new RingChamber();
         fine(x, "ROUNDS with no LEAD", x.extent(), 1);
@@ -563,8 +635,24 @@ public final class TouchEdgeTest extends Edge {
             fine(x, "all ROWS of stage " + stage, x.extent(), ROWS[stage]);
             due("the last ROW can be come to", x.way(ROWS[stage] - 1) > 0, true);
             Texts.book(x, "stage " + stage + ";");
+            refused(x, "no WAY of the BOOK ahead", x.way(ROWS[stage] - 1), 6);
             fine(x, "without a METHOD again", x.extent(), 1);
+            Texts.book(x, "stage " + stage + ";method b " + stays(stage).substring(2) + ";");
+            fine(x, "another BOOK", x.extent(), 2);
+            fine(x, "smaller", Texts.book(x, "stage 4;method a 12;method b 34;"), 2);
+            fine(x, "smaller", x.extent(), 4);
+            refused(x, "none", x.way(2), 6);
         }
+    }
+
+    /** No ROW is farther: 35 LEADS, which lead to it one by one. */
+    private static void farthest() {
+        RingChamber x = with("stage 8;method a 345678;method b x 18;");
+        fine(x, "LEADS", x.way(15127), 35);
+        int at = 0;
+        for (int k = 0; k < 35; k++) at = x.product(at, x.head(x.wayAt(k, 0), x.wayAt(k, 1)));
+        due("where they lead", at, 15127);
+        refused(x, "no more", x.wayAt(35, 0), 6);
     }
 
     /** The LEADS of a WAY are told as METHOD, call, METHOD, call .. */
@@ -594,9 +682,15 @@ public final class TouchEdgeTest extends Edge {
         fine(y, "ROUNDS twice", y.compositions(1, 4, 1), 0);
         fine(y, "ROUNDS at the end of a LEAD", y.compositions(2, 1, 1), 1);
         fine(y, "ROUNDS within a LEAD", y.compositions(3, 1, 1), 0);
-        y = with("stage 4;method a x 14 x bob 1234;");
-        // bob: 2143 2413 2413
-        fine(y, "a call strikes a ROW again", y.compositions(0, 4, 2), 0);
+        y = with("stage 4;method a x 14 bob 1234;method b x x 14;method c x 14 14 bob 12;");
+        // 2143 2143 1234 1234
+        fine(y, "a bob strikes a ROW again", y.compositions(0, 2, 2), 0);
+        // 2143 1234 1324 3142 1324 1234
+        fine(y, "ROUNDS within", y.compositions(1, 2, 1), 0);
+        // 2143 2413 2431 4213 4123 4132 1423 1243 1234
+        fine(y, "with bobs a ROW is not there again", y.compositions(2, 3, 2), 1);
+        fine(y, "with plain it is", y.compositions(2, 3, 1), 0);
+        fine(y, "and the last alone may not be", y.compositions(2, 3, 3), 1);
 
         says(57, "COMPOSITIONS (1: the empty set, too).");
         methods("compositions", (z, n) -> z.compositions(n, 1, 1));
